@@ -729,8 +729,8 @@ public final class NinepinAlley {
                 if (n == Laws.STATEMENTS_MOST) {
                     return fail(5, at);
                 }
-                if (!statement() || !expects(';')) {
-                    return false;
+                if (!statement() || !takesSign(';')) {
+                    return fail(1, at);
                 }
             }
             return false;
@@ -840,7 +840,7 @@ public final class NinepinAlley {
                 return mayOpen(open, place) && fact(open + 1) && laws.code.put(Code.NOT);
             }
             if (takesSign('[')) {
-                return mayOpen(open, place) && test(open + 1) && expects(']');
+                return mayOpen(open, place) && test(open + 1) && takesSign(']') || fail(1, at);
             }
             if (takes("all")) {
                 return laws.code.put(Code.ALL);
@@ -892,7 +892,7 @@ public final class NinepinAlley {
         private boolean part(int open) {
             int place = at;
             if (takesSign('(')) {
-                return mayOpen(open, place) && sum(open + 1) && expects(')');
+                return mayOpen(open, place) && sum(open + 1) && takesSign(')') || fail(1, at);
             }
             if (takes("min")) {
                 return pair(open, Code.MIN);
@@ -924,8 +924,8 @@ public final class NinepinAlley {
 
         private boolean pair(int open, int op) {
             int place = at;
-            return expects('(') && mayOpen(open, place) && sum(open + 1)
-                    && expects(',') && sum(open + 1) && expects(')') && laws.code.put(op);
+            return takesSign('(') && mayOpen(open, place) && sum(open + 1)
+                    && takesSign(',') && sum(open + 1) && takesSign(')') && laws.code.put(op) || fail(1, at);
         }
 
         private boolean mayOpen(int open, int place) {
@@ -961,10 +961,6 @@ public final class NinepinAlley {
 
         private boolean expectsWord(String word) {
             return takes(word) || fail(1, at);
-        }
-
-        private boolean expects(char sign) {
-            return takesSign(sign) || fail(1, at);
         }
 
         /** A number; NONE at a fault. */
@@ -1006,9 +1002,12 @@ public final class NinepinAlley {
             return i >= 0 && i < length && text[i] >= '0' && text[i] <= '9';
         }
 
+        /** The first fault stays: those that end because of it may tell theirs. */
         private boolean fail(int kind, int place) {
-            faultKind = kind;
-            faultPlace = place;
+            if (faultKind == 0) {
+                faultKind = kind;
+                faultPlace = place;
+            }
             return false;
         }
     }
@@ -1178,8 +1177,8 @@ public final class NinepinAlley {
         private static final int TORN_MARKS = 4;
 
         private int holds = NOTHING;
-        private Span now = null;
-        private Span next = null;
+        private Span now = new Span(STATES, WIDTH);
+        private Span next = new Span(STATES, WIDTH);
         private Sheet sheet;
         private Laws laws;
         private final int[] given = new int[FRAMES_MOST + 1];
@@ -1243,15 +1242,15 @@ public final class NinepinAlley {
         // ---- what has been found
 
         long at(int n) {
-            return n < LOWEST || n >= LOWEST + WIDTH || now == null ? 0 : now.value(0, n - LOWEST);
+            return n < LOWEST || n >= LOWEST + WIDTH ? 0 : now.value(0, n - LOWEST);
         }
 
         int least() {
-            return now == null ? 0 : LOWEST + now.low(0);
+            return LOWEST + now.low(0);
         }
 
         int greatest() {
-            return now == null ? 0 : LOWEST + now.high(0);
+            return LOWEST + now.high(0);
         }
 
         long countFrom(int n) {
@@ -1283,10 +1282,8 @@ public final class NinepinAlley {
         private void goThrough(Sheet of) {
             sheet = of;
             laws = of.laws;
-            if (now == null || next == null) {
-                now = new Span(STATES, WIDTH);
-                next = new Span(STATES, WIDTH);
-            }
+            now.open();
+            next.open();
             now.wipe();
             now.set(0, -LOWEST, 1);
             for (int f = 0; f <= laws.frames; f++) {
@@ -1433,23 +1430,29 @@ public final class NinepinAlley {
     /** Rows of counts or marks, each with the stretch in which it is not 0. */
     private static final class Span {
         private final int width;
-        private final long[] cells;
+        private long[] cells = new long[0];
         private final int[] lows;
         private final int[] highs;
 
         Span(int rows, int width) {
-            this.width = width;
-            cells = new long[Math.max(rows, 0) * Math.max(width, 0)];
+            this.width = Math.max(width, 0);
             lows = new int[Math.max(rows, 0)];
-            highs = new int[Math.max(rows, 0)];
+            highs = new int[lows.length];
             for (int row = 0; row < lows.length; row++) {
-                lows[row] = width;
+                lows[row] = this.width;
                 highs[row] = NONE;
             }
         }
 
+        /** The cells are made when they are first asked for: many an object never looks ahead. */
+        void open() {
+            if (cells.length == 0) {
+                cells = new long[lows.length * width];
+            }
+        }
+
         private boolean isRow(int row) {
-            return row >= 0 && row < lows.length;
+            return row >= 0 && row < lows.length && (row + 1) * width <= cells.length;
         }
 
         int low(int row) {
@@ -1482,7 +1485,8 @@ public final class NinepinAlley {
 
         /** Whether a row of another can come into a row here, moved by a gain. */
         private boolean canTake(Span other, int from, int to, int gain) {
-            return isRow(from) && isRow(to) && other.width == width && !other.isEmpty(from)
+            return isRow(from) && isRow(to) && other.cells.length == cells.length && other.width == width
+                    && other.lows[from] <= other.highs[from]
                     && other.lows[from] + gain >= 0 && other.highs[from] + gain < width;
         }
 
@@ -1518,7 +1522,8 @@ public final class NinepinAlley {
 
         void wipe() {
             for (int row = 0; row < lows.length; row++) {
-                for (int t = lows[row]; t <= highs[row] && t < width; t++) {
+                int last = Math.min(high(row), width - 1);
+                for (int t = Math.max(lows[row], 0); t <= last; t++) {
                     cells[row * width + t] = 0;
                 }
                 lows[row] = width;
