@@ -1,3 +1,5 @@
+import java.nio.charset.StandardCharsets;
+
 /** Promises 1 to 6: a new object, the tape, games and their faults. */
 public final class GameTest {
     private static void fault(String text, int kind, int place) {
@@ -149,6 +151,13 @@ public final class GameTest {
         fault("handicap 1 when all;", 1, 11);
         fault("handicap all;", 1, 9);
         fault("foul 1 \u00e9", 1, 7);
+        fault("handicap;", 1, 8);
+        fault("handicap 1+;", 1, 11);
+        fault("handicap 1*;", 1, 11);
+        fault("worth 1 when;", 1, 12);
+        fault("worth 1 when all and;", 1, 20);
+        fault("worth 1 when not;", 1, 16);
+        fault("worth 1 when 1=;", 1, 15);
         // kind 2
         fault("pins 0", 2, 5);
         fault("pins 9999;", 2, 5);
@@ -177,6 +186,21 @@ public final class GameTest {
         fault("pins 1;".repeat(30) + "7", 5, 210);
         fault("pins 1;".repeat(29) + "pins 1", 1, 209);
         good("pins 1;".repeat(30) + " \n", 30);
+    }
+
+    /** Bytes that were on the tape behind its end are no part of a text. */
+    private static void bytesBehindTheEnd() {
+        NinepinAlley x = new NinepinAlley();
+        byte[] text = "pins 3;frames 2;fram".getBytes(StandardCharsets.ISO_8859_1);
+        for (int length = 0; length <= 20; length++) {
+            Check.tape(x, text);
+            Check.due("end", x.end(length), true);
+            boolean whole = length == 0 || length == 7 || length == 16;
+            int[] places = {-1, 0, 0, 0, 4, 5, 6, -1, 7, 7, 7, 7, 7, 13, 14, 15, -1, 16, 16, 16, 16};
+            Check.due("game() of " + length, x.game() >= 0, whole);
+            Check.due("fault(0) of " + length, x.fault(0), whole ? 0 : 1);
+            Check.due("fault(1) of " + length, x.fault(1), places[length]);
+        }
     }
 
     private static void promise6() {
@@ -243,6 +267,7 @@ public final class GameTest {
         promises2And3();
         promise4();
         promise5();
+        bytesBehindTheEnd();
         promise6();
         sumsAndTests();
         Check.end();
