@@ -4,8 +4,14 @@ import java.nio.charset.StandardCharsets;
 final class Check {
     private static int calls = 0;
     private static int wrong = 0;
+    private static String sentence = "";
 
     private Check() {
+    }
+
+    /** The sentence of the document that the answers looked at from here on are due by. */
+    static void promise(int number, String words) {
+        sentence = "promise " + number + " (" + words + "): ";
     }
 
     static void due(String call, long got, long want) {
@@ -13,7 +19,7 @@ final class Check {
         if (got != want) {
             wrong++;
             if (wrong <= 50) {
-                System.out.println(call + " answered " + got + ", due is " + want);
+                System.out.println(sentence + call + " answered " + got + ", due is " + want);
             }
         }
     }
@@ -44,8 +50,12 @@ final class Check {
         tape(x, b);
     }
 
-    static int game(NinepinAlley x, String text) {
+    static void tape(NinepinAlley x, String text) {
         tape(x, text.getBytes(StandardCharsets.ISO_8859_1));
+    }
+
+    static int game(NinepinAlley x, String text) {
+        tape(x, text);
         return x.game();
     }
 
