@@ -1,5 +1,9 @@
 import java.math.BigInteger;
 import java.util.Arrays;
+import java.util.List;
+import java.util.function.Consumer;
+import java.util.function.Supplier;
+import java.util.function.ToLongFunction;
 
 /** Promises 15 to 17 at their bounds: what is to come. */
 public final class ComeBoundsTest {
@@ -209,7 +213,15 @@ public final class ComeBoundsTest {
         NinepinAlley x = Check.of("pins 4; frames 1; rolls 1; worth 10 when down = 1; worth 0 - 10 when down > 2;");
         needsAre(x, -7, new int[] {0, 0, 0, 0, 0, 0, 0, 0, 1, 1, 1, 1, 1, 1, 1, 1, 1, 1, 1},
                 new int[] {0, 0, 0, 0, 0, 0, 0, 0, 1, 1, 1, 1, 1, 1, 1, 1, 1, 1, 1});
-        // 0 can bring 4 and can bring 0; 3 must bring 3
+        // all but 0 are worth as much, so 1 is the least of nine that will do
+        x = Check.of("pins 9; frames 1; rolls 1; worth 9 - down when down > 0;");
+        Check.due("needs(0, true)", x.needs(0, true), 0);
+        for (int target = 1; target <= 9; target++) {
+            Check.due("needs(" + target + ", false)", x.needs(target, false), 1);
+            Check.due("needs(" + target + ", true)", x.needs(target, true), 1);
+        }
+        Check.due("needs(10, false)", x.needs(10, false), -1);
+        // three are needed to reach 5, and three must bring 3, whatever the last frame does
         x = Check.of("pins 3; frames 2; rolls 1; worth 0 - 3 when frame = 2 and down = 3;");
         Check.due("needs(5, false)", x.needs(5, false), 3);
         Check.due("needs(3, true)", x.needs(3, true), 3);
@@ -258,12 +270,99 @@ public final class ComeBoundsTest {
         Check.due("come(true) behind it", x.come(true), 9);
     }
 
+    private static final List<Consumer<NinepinAlley>> CHANGES = List.of(
+            x -> x.roll(0), x -> x.roll(-2), x -> x.back(), x -> x.clear(), x -> Check.game(x, "pins 3; frames 2; rolls 1;"),
+            x -> Check.game(x, "pins 3; frames 2; rolls 1"), ComeBoundsTest::anotherSheet, x -> x.tear(0, true),
+            x -> x.tear(3, true), x -> x.tear(0, false), x -> x.tear(3, false));
+    private static final List<ToLongFunction<NinepinAlley>> LOOKS = List.of(
+            x -> x.come(false), x -> x.come(true), x -> x.ways(9, false), x -> x.ways(-1000, true), x -> x.needs(12, false),
+            x -> x.needs(12, true), x -> x.fits(16, false), x -> x.fits(0, true), x -> x.must(0, 16, false),
+            x -> x.must(1, 0, true), x -> x.must(2, 0, true));
+
+    private static void anotherSheet(NinepinAlley x) {
+        int[] bytes = {2, 3, 1, 0};
+        int c = 11;
+        for (int i = 0; i < 3; i++) {
+            c = (7 * c + bytes[i]) % 239;
+        }
+        bytes[3] = c;
+        Check.tape(x, bytes);
+        Check.due("on()", x.on(), true);
+    }
+
+    /** A look, a change and another look: the first one must not be seen by the last. */
+    private static void everyLookAgain() {
+        List<Supplier<NinepinAlley>> makings = List.of(Made::noRolls, Made::halfway, Made::inFills, Made::whole, Made::torn);
+        for (Supplier<NinepinAlley> making : makings) {
+            for (Consumer<NinepinAlley> change : CHANGES) {
+                for (ToLongFunction<NinepinAlley> last : LOOKS) {
+                    NinepinAlley other = making.get();
+                    change.accept(other);
+                    long want = last.applyAsLong(other);
+                    for (ToLongFunction<NinepinAlley> first : LOOKS) {
+                        NinepinAlley x = making.get();
+                        first.applyAsLong(x);
+                        change.accept(x);
+                        Check.due("look " + LOOKS.indexOf(last) + " behind change " + CHANGES.indexOf(change)
+                                + " behind look " + LOOKS.indexOf(first), last.applyAsLong(x), want);
+                    }
+                }
+            }
+        }
+    }
+
+    /** The greatest and the least totals that any game has. */
+    private static void extremes() {
+        Check.promise(15, "the greatest TOTAL of all games, 448");
+        NinepinAlley x = Check.of("frames 8; rolls 1; clean 1 earns 3; worth 20 when all;");
+        Check.due("come(true)", x.come(true), 448);
+        Check.due("come(false)", x.come(false), 160);
+        Check.due("ways(448, false)", x.ways(448, false), 1);
+        Check.due("ways(448, true)", x.ways(448, true), 1);
+        Check.due("ways(449, true)", x.ways(449, true), 0);
+        Check.due("needs(448, false)", x.needs(448, false), 9);
+        Check.due("needs(449, false)", x.needs(449, false), -1);
+        for (int i = 0; i < 11; i++) {
+            Check.due("needs(448, false) of roll " + i, x.needs(448, false), 9);
+            Check.rolls(x, 9);
+        }
+        Check.due("come(false), whole", x.come(false), 448);
+        Check.due("fits(448, false)", x.fits(448, false), 1);
+        for (int f = 0; f <= 8; f++) {
+            x.tear(f, true);
+        }
+        Check.due("fits(448, false), all torn", x.fits(448, false), 1);
+        Check.due("fits(449, false), all torn", x.fits(449, false), 0);
+        Check.due("must(0, 448, false)", x.must(0, 448, false), 512);
+        Check.due("must(7, 448, false)", x.must(7, 448, false), 512);
+        Check.promise(15, "the least TOTAL of all games, -400");
+        x = Check.of("frames 8; rolls 3; foul 10; worth 0-20 when all;");
+        for (int i = 0; i < 24; i++) {
+            // fouls so far, at 10 each, and -20 for each of the eight frames
+            Check.due("come(false) behind " + i, x.come(false), -10 * i - 160);
+            Check.due("ways to it", x.ways(-10 * i - 160, false), 1);
+            Check.due("ways to less", x.ways(-10 * i - 161, false), 0);
+            Check.due("needs of it", x.needs(-10 * i - 160, true), 0);
+            Check.due("needs of one more", x.needs(-10 * i - 159, true), 1);
+            Check.rolls(x, -2);
+        }
+        Check.due("come(true), whole", x.come(true), -400);
+        Check.due("ways(-400, false)", x.ways(-400, false), 1);
+        Check.due("ways(-400, true)", x.ways(-400, true), 1);
+        Check.due("ways(-399, true)", x.ways(-399, true), 0);
+        Check.due("fits(-400, false)", x.fits(-400, false), 1);
+        Check.due("fits(-401, false)", x.fits(-401, false), 0);
+        Check.due("must(7, -400, false)", x.must(7, -400, false), 1);
+    }
+
     public static void main(String[] args) {
         smallestGames();
         atEveryLength();
         countsAtMost();
         needs();
         lookedAtAgain();
+        everyLookAgain();
+        extremes();
         Check.end();
     }
 }

@@ -326,6 +326,21 @@ public final class PlayersBoundsTest {
         Check.due("place(0)", x.place(0), 1);
         Check.due("place(1)", x.place(1), 0);
         Check.due("place(2)", x.place(2), 2);
+        Check.promise(28, "with the HANDICAP of now, though nothing was asked before");
+        for (int p = 0; p < 3; p++) {
+            x = Check.of(LAWS + "handicap 9 - mean;");
+            keep(x, 0, 9);
+            keep(x, 1, 1);
+            keep(x, 2, 1);
+            keep(x, 2, 9);
+            // 9 and 1 + 8 are as many, 1 + 4 is less
+            int[] due = {0, 0, 2};
+            Check.due("place(" + p + ")", x.place(p), due[p]);
+            keep(x, 1, 9);
+            // 9, then 1 + 4 and 9 + 4, then 1 + 4 and 9 + 4: the first has 4, the others 2
+            int[] then = {0, 1, 1};
+            Check.due("place(" + p + ") then", x.place(p), then[p]);
+        }
         State.stays("meet, place, player", Made::torn, y -> {
             y.meet(0, 1);
             y.place(1);

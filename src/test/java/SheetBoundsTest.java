@@ -169,6 +169,7 @@ public final class SheetBoundsTest {
             Check.due("clear() again", x.clear(), 0);
             State.alike("clear() of " + n, x, Made.noRolls());
         }
+        State.stays("clear() of none", Made::noRolls, y -> Check.due("clear", y.clear(), 0));
         NinepinAlley x = Made.torn();
         Check.due("clear() of a torn one", x.clear(), 8);
         Check.due("back() then", x.back(), false);
@@ -180,6 +181,51 @@ public final class SheetBoundsTest {
         }
         Check.due("clear() of the longest", x.clear(), 27);
         sheetIs(x, 0, 0, 0, 1, 0, 0);
+    }
+
+    /** Rolls of none until the sheet is whole. */
+    private static void fillUp(NinepinAlley x) {
+        for (int n = 0; n < 27 && x.sheet(4) == 0; n++) {
+            Check.rolls(x, 0);
+        }
+        Check.due("whole", x.sheet(4), 1);
+    }
+
+    /** What was earned by rolls that are gone is earned no more. */
+    private static void otherRollsBehindThem() {
+        Check.promise(8, "The last ROLL is taken back, and others come");
+        for (int n = 1; n <= Made.rollsOfWhole(); n++) {
+            NinepinAlley x = Made.with(n);
+            x.back();
+            fillUp(x);
+            NinepinAlley other = Made.with(n - 1);
+            fillUp(other);
+            State.alike("zeros behind back() of " + n, x, other);
+            x = Made.with(n);
+            for (int k = 0; k < n; k++) {
+                x.back();
+            }
+            fillUp(x);
+            other = Made.noRolls();
+            fillUp(other);
+            State.alike("zeros behind " + n + " times back()", x, other);
+        }
+        Check.promise(9, "THE SHEET is empty, and others come");
+        for (int n = 0; n <= Made.rollsOfWhole(); n++) {
+            NinepinAlley x = Made.with(n);
+            x.clear();
+            fillUp(x);
+            NinepinAlley other = Made.noRolls();
+            fillUp(other);
+            Check.due("rolls of a sheet without fills", x.sheet(0), 6);
+            State.alike("zeros behind clear() of " + n, x, other);
+            x = Made.with(n);
+            x.end(0);
+            Check.game(x, Made.LAWS);
+            fillUp(x);
+            Check.due("rolls of a new game's sheet", x.sheet(0), 6);
+            Check.due("its fills", x.sheet(5), 0);
+        }
     }
 
     // ---- promise 10
@@ -416,6 +462,7 @@ public final class SheetBoundsTest {
         longestAndShortest();
         backAtEveryLength();
         clearAtEveryLength();
+        otherRollsBehindThem();
         everySheet();
         fillsEarned();
         rolledOnes();

@@ -134,14 +134,15 @@ public final class SumBoundsTest {
         holds("not all", false);
         holds("not not all", true);
         holds("not not not not not not all", true);
-        String[] signs = {"all", "not all"};
-        for (int bits = 0; bits < 8; bits++) {
+        String[][] facts = {{"all", "not all"}, {"1 < 2", "2 < 1"}, {"2 > 1", "1 > 2"}, {"1 = 1", "1 = 2"}};
+        for (int n = 0; n < 32; n++) {
+            int bits = n % 8;
             boolean a = (bits & 1) == 0;
             boolean b = (bits & 2) == 0;
             boolean c = (bits & 4) == 0;
-            String x = signs[bits & 1];
-            String y = signs[bits >> 1 & 1];
-            String z = signs[bits >> 2 & 1];
+            String x = facts[n / 8][bits & 1];
+            String y = facts[(n / 8 + 1) % 4][bits >> 1 & 1];
+            String z = facts[(n / 8 + 2) % 4][bits >> 2 & 1];
             holds(x + " or " + y + " and " + z, a || b && c);
             holds(x + " and " + y + " or " + z, a && b || c);
             holds("[" + x + " or " + y + "] and " + z, (a || b) && c);
@@ -214,12 +215,48 @@ public final class SumBoundsTest {
         Check.due("1 + worth 11", x.points(1), 12);
     }
 
+    /** Each frame there can be: its number, what falls, its rolls and fouls, all told apart by its worth. */
+    private static void everyFrame() {
+        Check.promise(13, "WORTH of each number, down, used and fouls");
+        String sum = "frame*17+down*5+used*11+fouls*7";
+        for (int rolls = 1; rolls <= 3; rolls++) {
+            String laws = "frames 8; rolls " + rolls + "; worth " + sum + "-(" + sum + ")/41*41-20 when all;";
+            int kinds = (int) Math.pow(11, rolls);
+            for (int kind = 0; kind < kinds; kind++) {
+                frames(laws, rolls, kind, kinds);
+            }
+        }
+    }
+
+    /** Eight frames, each of another kind: its digits to the base of 11 are its takes, 10 a foul. */
+    private static void frames(String laws, int rolls, int kind, int kinds) {
+        NinepinAlley x = Check.of(laws);
+        for (int f = 0; f < 8; f++) {
+            int down = 0;
+            int used = 0;
+            int fouls = 0;
+            int digits = (kind + f * 7) % kinds;
+            while (used < rolls && down < 9) {
+                int digit = digits % 11;
+                int take = digit == 10 ? -2 : Math.min(digit, 9 - down);
+                Check.due("roll(" + take + ")", x.roll(take), true);
+                down += Math.max(take, 0);
+                fouls += take == -2 ? 1 : 0;
+                used++;
+                digits /= 11;
+            }
+            int sum = (f + 1) * 17 + down * 5 + used * 11 + fouls * 7;
+            Check.due("points of frame " + f + ": " + down + ", " + used + ", " + fouls, x.points(f), down + sum % 41 - 20);
+        }
+    }
+
     public static void main(String[] args) {
         million();
         quotients();
         fromTheLeft();
         worths();
         factsOfFrames();
+        everyFrame();
         Check.end();
     }
 }

@@ -117,6 +117,41 @@ public final class TextBoundsTest {
         State.alike("rolls behind two empty games", x, other);
     }
 
+    /** Texts as long as can be, one behind another: none may find less room than the one before. */
+    private static void longTexts() {
+        Check.promise(4, "The tape is the GAME, though long texts were read before");
+        NinepinAlley x = new NinepinAlley();
+        String sum = "1" + "+1".repeat(340);
+        for (int n = 1; n <= 4; n++) {
+            Check.due("game() of a long sum", Check.game(x, "handicap " + sum + "-7;"), 1);
+            Check.due("its handicap", x.player(0, 3), 99);
+            Check.due("game() of a long fault", Check.game(x, "handicap " + sum + "?"), -1);
+            Check.due("its fault", x.fault(0), 1);
+            Check.due("its place", x.fault(1), 690);
+        }
+        x = new NinepinAlley();
+        String test = "1=1" + " or 1=1".repeat(96);
+        for (int n = 1; n <= 5; n++) {
+            Check.due("game() of a long test", Check.game(x, "worth 5 when " + test + ";"), 1);
+            Check.due("its worth", x.come(false), 30);
+        }
+        Check.promise(4, "nothing is left of the handicap of a game before");
+        x = new NinepinAlley();
+        Check.game(x, "handicap 7;");
+        Check.game(x, "handicap 8;");
+        Check.game(x, "worth 5 when all;");
+        Check.due("no handicap", x.player(0, 3), 0);
+        Check.game(x, "worth 6 when all; handicap 9;");
+        Check.due("a handicap behind a worth", x.player(0, 3), 9);
+        Check.game(x, "worth 5 when all;");
+        Check.due("no handicap", x.player(0, 3), 0);
+        Check.game(x, "joins 0 1;");
+        Check.game(x, "joins 1 2;");
+        Check.game(x, "joins 2 3;");
+        Check.due("one join", x.has(8), 1);
+        Check.due("no join of the games before", x.leaves(7), 3);
+    }
+
     // ---- promise 5
 
     private static void ofTheLatestGame() {
@@ -589,6 +624,7 @@ public final class TextBoundsTest {
         theTapeGoes();
         allStays();
         allIsNew();
+        longTexts();
         ofTheLatestGame();
         hasOthers();
         manyWorthsAndJoins();

@@ -281,6 +281,11 @@ public final class TornBoundsTest {
             Check.due("must(0, " + n + ", false)", x.must(0, n, false), 0);
             Check.due("must(0, " + n + ", true)", x.must(0, n, true), 15);
         }
+        // all but 0 are worth as much
+        NinepinAlley even = torn(rolled("pins 9; frames 1; rolls 1; worth 9 - down when down > 0;", 4), 0);
+        Check.due("must(0, 9, false)", even.must(0, 9, false), 1022);
+        Check.due("must(0, 0, false)", even.must(0, 0, false), 1);
+        Check.due("must(0, 0, true)", even.must(0, 0, true), 1023);
         // asked for one frame, then for another
         torn(x, 1);
         Check.due("must(0, 6)", x.must(0, 6, false), 15);
