@@ -175,6 +175,18 @@ public final class SumBoundsTest {
         NinepinAlley x = Check.of("pins 1; frames 1; rolls 1;" + "worth 1 when not all;".repeat(26) + "worth 9 when all;");
         Check.rolls(x, 1);
         Check.due("the last of 30 statements", x.points(0), 10);
+        // six brackets open, each with a sum and a product that wait, behind as many worths as the text has room for
+        String deep = "1+1*(1+1*(1+1*(1+1*(1+1*(1+1*(2))))))";
+        String many = "pins 1;frames 1;" + "worth 1 when 1=2;".repeat(27);
+        x = Check.of(many + "worth " + deep + " when all;");
+        Check.rolls(x, 0, 0);
+        Check.due("a deep sum behind many worths", x.points(0), 8);
+        x = Check.of(many + "worth 5 when " + deep + " = 8;");
+        Check.rolls(x, 0, 0);
+        Check.due("a deep test behind many worths", x.points(0), 5);
+        Check.promise(26, "HANDICAP: its SUM");
+        x = Check.of(many + "handicap " + deep + ";");
+        Check.due("a deep handicap behind many worths", x.player(0, 3), 8);
         Check.promise(13, "0 without one");
         holds("not all", false);
         holds("down > 0", false);
