@@ -309,12 +309,13 @@ public final class NinepinAlley {
     // ---- images
 
     public int image() {
-        imageBytes[0] = sheet.count;
-        for (int i = 0; i < sheet.count && i < SHEET_MOST; i++) {
+        int rolls = within(0, sheet.count, SHEET_MOST);
+        imageBytes[0] = rolls;
+        for (int i = 0; i < rolls; i++) {
             imageBytes[i + 1] = sheet.taken[i] == FOUL ? FOUL_BYTE : sheet.taken[i];
         }
-        imageSize = sheet.count + 2;
-        imageBytes[imageSize - 1] = checkByte(imageBytes, imageSize - 1);
+        imageBytes[rolls + 1] = checkByte(imageBytes, rolls + 1);
+        imageSize = rolls + 2;
         return imageSize;
     }
 
@@ -1485,7 +1486,7 @@ public final class NinepinAlley {
 
         /** Whether a row of another can come into a row here, moved by a gain. */
         private boolean canTake(Span other, int from, int to, int gain) {
-            return isRow(from) && isRow(to) && other.cells.length == cells.length && other.width == width
+            return other.isRow(from) && isRow(to) && other.width == width
                     && other.lows[from] <= other.highs[from]
                     && other.lows[from] + gain >= 0 && other.highs[from] + gain < width;
         }

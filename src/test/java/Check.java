@@ -1,7 +1,10 @@
 import java.nio.charset.StandardCharsets;
 
-/** Help for the tests: answers that are due, texts put on the tape, and the end of a test. */
-final class Check {
+/**
+ * Help for the tests: answers that are due, texts put on the tape, and the end of a test. The program that ReadmeTest
+ * makes has another class loader, and so needs what is public here.
+ */
+public final class Check {
     private static int calls = 0;
     private static int wrong = 0;
     private static String sentence = "";
@@ -14,7 +17,7 @@ final class Check {
         sentence = "promise " + number + " (" + words + "): ";
     }
 
-    static void due(String call, long got, long want) {
+    public static void due(String call, long got, long want) {
         calls++;
         if (got != want) {
             wrong++;
@@ -24,7 +27,7 @@ final class Check {
         }
     }
 
-    static void due(String call, boolean got, boolean want) {
+    public static void due(String call, boolean got, boolean want) {
         due(call, got ? 1 : 0, want ? 1 : 0);
     }
 
