@@ -501,7 +501,7 @@ public final class NinepinAlley {
         }
 
         private int pop() {
-            if (height <= 0) {
+            if (height <= 0 || height > stack.length) {
                 return 0;
             }
             height--;
@@ -1480,8 +1480,10 @@ public final class NinepinAlley {
         }
 
         private void stretch(int row, int first, int last) {
-            lows[row] = Math.min(lows[row], first);
-            highs[row] = Math.max(highs[row], last);
+            if (isRow(row)) {
+                lows[row] = Math.min(lows[row], first);
+                highs[row] = Math.max(highs[row], last);
+            }
         }
 
         /** Whether a row of another can come into a row here, moved by a gain. */
